@@ -1,7 +1,7 @@
 /** Promises 30 to 35, and 37 for as(). */
 public final class AskedTest {
   private static final int BAD = CloudHerd.BAD, STATE = CloudHerd.STATE, NONE = CloudHerd.NONE;
-  private static final String FIVE = "k1,0;loooooo;uoooooo;a8,9;p1,6;b16,12;g10,4;y20,5;";
+  private static final String FIVE = "k1,0;loooooo;uoooooo;a8,9;p7,6;b16,12;g10,4;y20,5;";
 
   public static void main(String[] args) {
     keepsImages();
@@ -101,7 +101,7 @@ public final class AskedTest {
   private static void asksSizes() {
     CloudHerd x = Due.told(FIVE);
     asked(x, 0, 0, 9 + 0 + 8, 11, 10, 21, 20);
-    asked(x, 1, 0, -(6 + 2 * (1 + 1)), 12, 11, 10, 24, 21, 20);
+    asked(x, 1, 0, -(6 + 2 * (1 + 7)), 12, 11, 10, 24, 21, 20);
     asked(x, 2, 0, 12 + 2 + 16 - 1000, 11, 10, 22, 21, 20);
     asked(x, 3, 0, 4 - 100, 13, 10);
     asked(x, 4, 0, 2 * (5 - 100), 14, 13, 10);
@@ -110,7 +110,7 @@ public final class AskedTest {
   private static void asksMarks() {
     CloudHerd x = Due.told(FIVE);
     asked(x, 0, 1, 0 + 8, 21, 20);
-    asked(x, 1, 1, 2 * (1 + 1), 24, 21, 20);
+    asked(x, 1, 1, 2 * (1 + 7), 24, 21, 20);
     asked(x, 2, 1, 2 + 16 - 1000, 22, 21, 20);
     asked(x, 3, 1, 3 - (4 - 100), 23, 20, 13, 10);
     asked(x, 4, 1, 4 - 2 * (5 - 100), 23, 20, 14, 13, 10);

@@ -125,6 +125,7 @@ public final class ForetoldTest {
     Due.is("never", x.soon(0, 8), NONE);
     Due.is("fog", x.soon(1, 10), NONE);
     Due.is("fog, there", x.soon(1, 9), 0);
+    Due.is("fog, not over 0", x.soon(1, 0), NONE);
     Due.is("stray, the other way", x.soon(2, 17), 1);
     Due.is("stray, not this way", x.soon(2, 19), NONE);
     Due.is("cloud 4", x.soon(4, 0), BAD);
@@ -195,6 +196,9 @@ public final class ForetoldTest {
     CloudHerd milked = Due.told("k5,3;loeoooo;uoooooo;m0;f1;a0,2;");
     Due.is("1 of 2 is milked", milked.heights(0, 3, 1), 5);
     Due.is("all low", milked.heights(0, 3, 0), 0);
+    CloudHerd up = Due.told("k5,3;loooooo;ueooooo;f1;b0,4;");
+    Due.is("high at the first only", up.heights(0, 2, 0), 1);
+    Due.is("what is left behind the lift", up.heights(0, 2, 1), 10);
   }
 
   private static void shade() {
@@ -267,6 +271,13 @@ public final class ForetoldTest {
     Due.is("stray", x.lost(2, 0, 1, 0, 2, 1), 6);
     Due.is("stray, on high it would be", x.lost(2, 1, 1, 0, 1, 1), 4);
     Due.is("no cell", x.lost(2, 0, 1, 2, 1, 0), 0);
+    Due.fill(x, 2, 0, 0, 0);
+    Due.is("0 and 1, then", x.lost(0, 1, 2, 0, 1, 0), 2);
+    Due.is("from 0 on", x.lost(0, 1, 2, 0, 2, 1), 0);
+    Due.is("0 and 1 yet: 2 would have been over 1", x.lost(0, 1, 2, 0, 2, 0), 2);
+    Due.fill(x, 2, 0, 31);
+    Due.is("30 and 31", x.lost(0, 0, 2, 0, 1, 0), 2);
+    Due.is("fog over 31", x.lost(1, 0, 2, 0, 1, 1), 31);
     x.hours(1);
     Due.fill(x, 2, 0, 20);
     Due.is("from now on", x.lost(0, 0, 2, 0, 1, 1), 19);
@@ -389,6 +400,12 @@ public final class ForetoldTest {
     Due.is("bad leaves status", x.status(), 2);
     Due.is("row 8", x.guards(8, 0), BAD);
     Due.is("row -1", x.guards(-1, 0), BAD);
+    Due.fill(x, 3, 0, 1, 2, 3, 4, 21);
+    Due.is("21 alone", x.guards(3, 0), BAD);
+    x.set(3, 4, 20);
+    Due.is("20", x.guards(3, 0), 24);
+    x.set(3, 0, 0);
+    Due.is("0 alone", x.guards(3, 0), BAD);
     x.row(3, 0, 4);
     Due.is("four", x.guards(3, 0), PLACE);
     Due.fill(x, 3, 2, 2, 2, 2, 2, 258);

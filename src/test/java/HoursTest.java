@@ -12,6 +12,7 @@ public final class HoursTest {
     lifts();
     tellsToRain();
     undoes();
+    undoesMilk();
     undoesTwentyFour();
     looksAtClouds();
     looksAtCells();
@@ -227,6 +228,20 @@ public final class HoursTest {
     x.rains(0, 1);
     Due.is("told what it was told", x.count(7), 1);
     Due.is("undo", x.undo(), 0);
+  }
+
+  private static void undoesMilk() {
+    CloudHerd x = Due.told("k5,3;loooooo;uoooooo;m0;h1;p0,9;b1,3;");
+    x.hours(2);
+    Due.is("milk", x.count(5), 2);
+    Due.is("earned", x.count(4), -9);
+    x.undo();
+    Due.is("milk", x.count(5), 1);
+    Due.is("earned", x.count(4), -6);
+    Due.is("water", x.cloud(0, 2), 8);
+    x.undo();
+    Due.is("milk", x.count(5), 0);
+    Due.is("water", x.cloud(1, 2), 3);
   }
 
   private static void undoesTwentyFour() {

@@ -11,6 +11,7 @@ public final class TapeTest {
     findsFaultsOfParishes();
     findsFaultsOfClouds();
     leavesAllByFault();
+    endsWhereItEnds();
     takesThePlaceOfOneBefore();
     Due.end("TapeTest");
   }
@@ -183,6 +184,23 @@ public final class TapeTest {
     Due.is("the latest fault yet", x.fault(), 1);
   }
 
+  /** What stood on the tape before is not read again, and a full tape ends where it ends. */
+  private static void endsWhereItEnds() {
+    CloudHerd x = new CloudHerd();
+    Due.is("four bytes and two", Due.tell(x, "k1,00;"), -1000106);
+    Due.is("four bytes", Due.tell(x, "k1,0"), -1000104);
+    Due.is("a parish over 0", Due.tell(x, HEAD + "f0;"), 0);
+    Due.is("none", Due.tell(x, HEAD), 0);
+    Due.is("none", x.cell(0, 0), 0);
+    String full = "k1,0;loooooo;uoooooo;f10;f11;f12;f13;f14;f15;f16;f17;"
+        + "a10,10;a11,10;a12,10;a13,10;a14,10;";
+    Due.is("most that is told", Due.tell(x, full), 5);
+    Due.is("120 bytes", Due.tell(x, full + "a".repeat(120 - full.length())), -1000100 - full.length());
+    Due.is("fault", x.fault(), 3);
+    Due.is("120 bytes, figures last", Due.tell(x, "k1,0;" + "9".repeat(115)), -1000105);
+    Due.is("120 figures", Due.tell(x, "1".repeat(120)), -1000100);
+  }
+
   private static void takesThePlaceOfOneBefore() {
     CloudHerd x = Due.told("k2,3;leeeeee;uoooooo;f1;h9;m3;a0,5;b8,9;g3,3;");
     x.rains(0, 0);
@@ -190,6 +208,15 @@ public final class TapeTest {
     x.lift(1, 1);
     Due.is("earned", x.count(4) != 0 ? 1 : 0, 1);
     Due.is("milk", x.count(5), 2);
+    Due.is("third is gone", x.cloud(2, 3), 1);
+    Due.is("foretold", x.ahead(1, 1, 1), 1);
+    Due.is("none left of what was foretold", Due.tell(x, HEAD + "p9,5;b8,9;g1,1;"), 3);
+    int[] none = {0, 3, 0, 0, 0, 0, 3, 0, 0};
+    for (int what = 0; what <= 8; what++) {
+      Due.is("count " + what, x.count(what), none[what]);
+    }
+    Due.is("height", x.cloud(1, 1), 0);
+    Due.is("gone", x.cloud(2, 3), 0);
     Due.is("two clouds", Due.tell(x, HEAD + "h3;p9,5;b8,9;"), 2);
     int[] counts = {0, 2, 1, 0, 0, 0, 2, 0, 0};
     for (int what = 0; what <= 8; what++) {
