@@ -5,6 +5,7 @@ public final class AskedTest {
 
   public static void main(String[] args) {
     keepsImages();
+    keepsWhatWasDone();
     kinds();
     takesAs();
     asksSizes();
@@ -42,10 +43,16 @@ public final class AskedTest {
     Due.is("restore", x.restore(1), 1);
     Due.same("as often as one likes", Due.seen(x), first);
     Due.is("no act", x.undo(), STATE);
+  }
+
+  private static void keepsWhatWasDone() {
+    CloudHerd x = Due.told("k5,3;leooooo;uoooooo;f1;m2;h3;a0,9;g1,20;p2,7;b3,9;");
     x.rains(0, 0);
     x.hours(2);
     x.lift(3, 1);
     String last = Due.seen(x);
+    x.image(0);
+    Due.tell(x, FIVE);
     Due.is("restore", x.restore(0), 1);
     Due.is("no act", x.count(7), 0);
     Due.is("gone", x.cloud(1, 3), 1);

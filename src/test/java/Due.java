@@ -2,15 +2,21 @@
 final class Due {
   private static int right = 0;
   private static int wrong = 0;
+  private static String part = "";
 
   private Due() { }
+
+  /** What the next answers stand for; told ahead of those that are not as due. */
+  static void within(String name) {
+    part = name.isEmpty() ? "" : name + ": ";
+  }
 
   static void is(String call, long got, long want) {
     if (got == want) {
       right++;
     } else {
       wrong++;
-      System.out.println(call + " answered " + got + ", due is " + want);
+      System.out.println(part + call + " answered " + got + ", due is " + want);
     }
   }
 
@@ -36,8 +42,8 @@ final class Due {
     }
   }
 
-  /** All of a herd that calls can see and that is not foretold. */
-  static String seen(CloudHerd herd) {
+  /** What acts can change: an object is good for 512 calls, and seen() takes many. */
+  static String brief(CloudHerd herd) {
     StringBuilder all = new StringBuilder();
     for (int what = 0; what <= 8; what++) {
       all.append(herd.count(what)).append(' ');
@@ -48,6 +54,12 @@ final class Due {
         all.append(' ').append(herd.cloud(cloud, what));
       }
     }
+    return all.toString();
+  }
+
+  /** All of a herd that calls can see and that is not foretold. */
+  static String seen(CloudHerd herd) {
+    StringBuilder all = new StringBuilder(brief(herd));
     for (int cell = 0; cell < 32; cell++) {
       all.append(' ').append(herd.cell(cell, 0));
     }

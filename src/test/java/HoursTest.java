@@ -204,23 +204,23 @@ public final class HoursTest {
     Due.is("none", x.undo(), STATE);
     x.feed(107);
     String[] seen = new String[6];
-    seen[0] = Due.seen(x);
+    seen[0] = Due.brief(x);
     x.lift(3, 1);
-    seen[1] = Due.seen(x);
+    seen[1] = Due.brief(x);
     x.rains(0, 0);
-    seen[2] = Due.seen(x);
+    seen[2] = Due.brief(x);
     x.hours(2);
-    seen[4] = Due.seen(x);
+    seen[4] = Due.brief(x);
     x.lift(3, 0);
-    seen[5] = Due.seen(x);
+    seen[5] = Due.brief(x);
     Due.is("someone is gone", x.count(6), 3);
     x.lift(3, 0);
-    Due.same("what is refused is no act", Due.seen(x), seen[5]);
+    Due.same("what is refused is no act", Due.brief(x), seen[5]);
     int[] left = {0, 1, 2, 3, 4};
     for (int k = 4; k >= 0; k--) {
       Due.is("undo", x.undo(), left[k]);
       if (seen[k] != null) {
-        Due.same("as it was " + k, Due.seen(x), seen[k]);
+        Due.same("as it was " + k, Due.brief(x), seen[k]);
       }
     }
     Due.is("all are back", x.count(6), 4);

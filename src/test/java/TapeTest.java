@@ -198,7 +198,7 @@ public final class TapeTest {
     Due.is("120 bytes", Due.tell(x, full + "a".repeat(120 - full.length())), -1000100 - full.length());
     Due.is("fault", x.fault(), 3);
     Due.is("120 bytes, figures last", Due.tell(x, "k1,0;" + "9".repeat(115)), -1000105);
-    Due.is("120 figures", Due.tell(x, "1".repeat(120)), -1000100);
+    Due.is("120 figures", Due.tell(new CloudHerd(), "1".repeat(120)), -1000100);
   }
 
   private static void takesThePlaceOfOneBefore() {
