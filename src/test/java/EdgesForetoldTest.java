@@ -264,6 +264,16 @@ public final class EdgesForetoldTest {
     Due.is("three in all", x.wetHay(60, 1), 9);
   }
 
+  // the 60th, too: a dry fog gets WATER in hour 41, and has some yet in hour 59
+  private static void p19_sixtieth() {
+    CloudHerd x = Due.told("k7,3;loooooe;uoooooo;h7;g7,0;p0,20;");
+    Due.is("41", x.wetHay(41, 0), NONE);
+    Due.is("42", x.wetHay(42, 0), 41);
+    Due.is("42", x.wetHay(42, 1), 3);
+    Due.is("59", x.wetHay(59, 1), 18 * 3);
+    Due.is("60", x.wetHay(60, 1), 19 * 3);
+  }
+
   // it rains as long as there is WATER: 40 at most
   private static void p19_howLong() {
     CloudHerd x = Due.told("k7,3;leooooo;uoooooo;h9;g9,20;p8,20;");
@@ -334,6 +344,8 @@ public final class EdgesForetoldTest {
     Due.is("cell 0", Due.told(CALM + "a0,1;").soon(0, 0), 0);
     Due.is("cell 31", Due.told(CALM + "a31,1;").soon(0, 31), 0);
     Due.is("not in 24", Due.told(CALM + "a31,1;").soon(0, 30), NONE);
+    Due.is("nor over the first", Due.told(CALM + "a31,1;").soon(0, 0), NONE);
+    Due.is("nor over the last", Due.told(CALM + "a0,1;").soon(0, 31), NONE);
   }
 
   // "(0 to 24)": 24, and not 25

@@ -956,6 +956,16 @@ public final class EdgesOfHoursTest {
     Due.is("more", z.count(4), 180);
   }
 
+  // "An object is used for at most 512 calls": the 512th answers as an earlier one
+  private static void p36_call512() {
+    String text = CALM + "f0;a0,20;";
+    CloudHerd x = Due.told(text);
+    for (int made = text.length() + 2; made < 512; made++) {
+      Due.is("call " + made, x.count(1), 1);
+    }
+    Due.is("call 512", x.hours(1), 1);
+  }
+
   // "6 CLOUDS that are not GONE", of "1 CLOUDS"
   private static void p36_gone() {
     CloudHerd x = Due.told("k1,0;leeeeee;uoooooo;p8,1;p9,1;p10,1;p11,1;p12,1;");

@@ -587,6 +587,15 @@ public final class EdgesOfTapeTest {
     Due.is("parishes", x.count(2), 0);
   }
 
+  // of the parishes before none is left, over the first and the last CELL neither
+  private static void p07_noParishIsLeft() {
+    CloudHerd x = Due.told(CALM + "f0;h31;m1;f30;");
+    Due.tell(x, CALM);
+    for (int cell = 0; cell < 32; cell++) {
+      Due.is("parish of " + cell, x.cell(cell, 0), 0);
+    }
+  }
+
   // "HOUR 0, each CLOUD is low (HEIGHT 0), told to rain; EARNED, MILK are 0; no ACT can be undone"
   private static void p07_asItBegins() {
     CloudHerd x = Due.told("k1,0;loooooo;uoooooo;f0;m1;a0,9;p1,9;a2,9;g10,9;a9,9;");
@@ -596,6 +605,8 @@ public final class EdgesOfTapeTest {
     x.rains(1, 0);
     Due.is("earned before", x.count(4), 2);
     Due.is("milk before", x.count(5), 2);
+    // nothing of what was foretold is left, either
+    Due.is("foretold", x.ahead(0, 2, 1), 1);
     Due.tell(x, CALM + "a0,9;p1,9;a2,9;g10,9;a9,9;");
     for (int cloud = 0; cloud < 5; cloud++) {
       Due.is("height", x.cloud(cloud, 1), 0);
@@ -615,6 +626,7 @@ public final class EdgesOfTapeTest {
     CloudHerd x = Due.told("k1,0;leooooo;uoooooo;g1,1;a0,1;");
     x.hours(1);
     Due.is("gone", x.cloud(1, 3), 1);
+    Due.is("foretold", x.ahead(1, 1, 3), 1);
     Due.tell(x, CALM + "g1,1;a0,1;");
     Due.is("not gone", x.cloud(1, 3), 0);
     Due.is("not gone", x.count(6), 2);
