@@ -348,6 +348,32 @@ public final class EdgesForetoldTest {
     Due.is("nor over the last", Due.told(CALM + "a0,1;").soon(0, 31), NONE);
   }
 
+  // at the edge of the CELLS it stays: from no corner it comes round to another side
+  private static void p20_corners() {
+    String letters = "ewsn";
+    int[][] steps = {{1, 0}, {-1, 0}, {0, 1}, {0, -1}};
+    for (int corner : new int[] {0, 7, 24, 31}) {
+      for (int way = 0; way < 4; way++) {
+        String six = letters.substring(way, way + 1).repeat(6);
+        for (String winds : new String[] {"l" + six + ";uoooooo;", "loooooo;u" + six + ";"}) {
+          CloudHerd x = Due.told("k1,0;" + winds + "a" + corner + ",1;");
+          int[] due = new int[32];
+          java.util.Arrays.fill(due, NONE);
+          int column = corner % 8;
+          int line = corner / 8;
+          for (int k = 0; column >= 0 && column < 8 && line >= 0 && line < 4; k++) {
+            due[8 * line + column] = k;
+            column += steps[way][0];
+            line += steps[way][1];
+          }
+          for (int cell = 0; cell < 32; cell++) {
+            Due.is(winds + " from " + corner + " to " + cell, x.soon(0, cell), due[cell]);
+          }
+        }
+      }
+    }
+  }
+
   // "(0 to 24)": 24, and not 25
   private static void p20_twentyFour() {
     CloudHerd last = Due.told("k1,0;loooooe;uoooooo;a0,1;");
